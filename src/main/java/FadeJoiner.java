@@ -894,9 +894,11 @@ public final class FadeJoiner {
         final long[] wholeSteps = new long[WHOLE_WORDS];
 
         Code() {
-            for (int word = 1; word < WORDS; word++) {
-                int lowest = Integer.numberOfTrailingZeros(word);
-                words[word] = words[word & (word - 1)] ^ (FIRST_STEP << (WORD_STEPS - 1 - lowest));
+            for (int step = WORD_STEPS - 1; step >= 0; step--) {
+                int highest = 1 << (WORD_STEPS - 1 - step);
+                for (int lower = 0; lower < highest; lower++) {
+                    words[highest + lower] = words[lower] ^ (FIRST_STEP << step);
+                }
             }
             for (int n = 1; n < WHOLE_WORDS; n++) {
                 wholeSteps[n] = words[wholeWord(n)] ^ words[wholeWord(0)];
@@ -978,6 +980,8 @@ public final class FadeJoiner {
     private static final class Weights {
         // The most a CODE BIT is sent: 9 SENDINGS of 60 over a ring of 13, 45 times.
         static final int DIGITS = 6;
+        // Above every weight: 39 times 63.
+        static final int HEAVIEST = 1000000;
 
         final long[] planes = new long[DIGITS];
         int depth;
@@ -1005,7 +1009,7 @@ public final class FadeJoiner {
 
         /** The least weight of all but the first of a row. */
         int least(long[] others) {
-            int least = Integer.MAX_VALUE;
+            int least = HEAVIEST;
             for (int n = 1; n < others.length; n++) {
                 least = Math.min(least, weigh(others[n]));
             }
