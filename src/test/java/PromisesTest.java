@@ -169,7 +169,7 @@ public final class PromisesTest {
 
     private static void lengthsAndVersions() {
         begin(11);
-        due(x.shortest(1, 1), 9, x.shortest(5, 6), 16, x.shortest(15, 20), 21, x.shortest(1, 10), 39, x.shortest(1, 60), NONE);
+        due(x.shortest(1, 1), 9, x.shortest(5, 6), 16, x.shortest(15, 20), 21, x.shortest(1, 10), 39, x.shortest(1, 60), NONE, x.shortest(15, 60), 60);
         due(x.shortest(0, 1), NONE, x.shortest(16, 1), -3, x.shortest(-1, 1), -3, x.shortest(1, 0), -3, x.shortest(1, 61), -3);
         for (int d = 1; d <= 12; d++) {
             int length = x.shortest(6, d);
@@ -215,7 +215,7 @@ public final class PromisesTest {
         begin(15);
         x.offer(0);
         x.send(0, 39, NONE);
-        due(x.limit(9999), 500, x.limit(5), 9999, x.limit(0), -3, x.limit(10000), -3, x.count(18), 5);
+        due(x.limit(9999), 500, x.limit(1), 9999, x.limit(5), 1, x.limit(0), -3, x.limit(10000), -3, x.count(18), 5);
         // SOFT stays till it is added to; 20 and 1 are kept to 5 then.
         due(x.soft(0, 0), -20);
         x.tray(0, 1);
@@ -383,6 +383,7 @@ public final class PromisesTest {
     private static void runs() {
         begin(23);
         due(x.run(1, 0, 1, 0), -3, x.run(1, 61, 1, 0), -3, x.run(1, 1, 0, 0), -3, x.run(1, 1, 61, 0), -3, x.run(1, 1, 1, -1), -3, x.run(1, 1, 1, 128), -3);
+        due(x.run(Integer.MIN_VALUE, 60, 60, 127), 0, x.run(Integer.MAX_VALUE, 1, 1, 0), 0);
         offerAll(1, 2, 3, 4, 5, 6);
         due(x.run(7, 20, 39, 30), 6, x.given(0), 6, x.given(5), 1);
         // Seed 0: the first DRAW is 12345 >>> 16, 0: the SENDING isn't HEARD, though FADE is 20.
@@ -459,6 +460,7 @@ public final class PromisesTest {
         due(x.drain(), 1, x.worst(0, 0), 1, x.worst(1, 0), 2, x.worst(1, 1), 1, x.worst(3, 0), 2, x.worst(3, 1), 1);
         spoilLongest();
         due(x.worst(0, 0), NONE, x.worst(0, 1), 0, x.worst(3, 0), NONE, x.worst(3, 1), 0, x.count(0), 20);
+        due(x.report(), 1, x.worst(0, 0), 30, x.drain(), 30);
     }
 
     private static void processes() {
@@ -577,7 +579,17 @@ public final class PromisesTest {
         // Also if it HAS one.
         x.answer(1, 0);
         due(x.send(1, 39, NONE), 1, x.enough(1, 39, 60), 1);
+        // SOFT at -8: by 1 each all is 0 where the WORD has 1 at the 8th, and the least WORD is ahead; at -7 it is enough.
+        x.limit(7);
+        layWord(2, 0, 0, 39, 100);
+        due(x.burst(1, 0, 0, 2), 0, x.burst(1, 0, 1, 2), 0, x.soft(1, 0), -7, x.enough(1, 39, 1), 8, x.limit(8), 7);
+        due(x.burst(1, 0, 0, 2), 0, x.burst(1, 0, 1, 2), 0, x.soft(1, 0), -8, x.enough(1, 39, 1), NONE, x.limit(10), 8);
         // The other TOGGLE: as if from 0.
+        x.image(0);
+        x.link(1, 1, 1, 8, 26);
+        // LOAD 8 of SN 0 is the WORD 64; VERSION 2 of 26 PLACES begins with its only 1, so one value is enough.
+        x.offer(8);
+        due(x.word(0, 8), 64, x.sent(2, 1, 0), 4, x.fade(0), 20, x.send(0, 1, NONE), NONE, x.enough(0, 1, 1), 1, x.restore(0), 0);
         x.limit(500);
         layWord(1, 0, 0, 39, 127);
         due(x.burst(1, 0, 0, 1), 0, x.enough(1, 39, 1), 1, x.burst(1, 0, 1, 1), 0, x.enough(1, 39, 1), NONE);
