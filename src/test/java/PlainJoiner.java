@@ -8,7 +8,7 @@ import java.util.List;
  */
 final class PlainJoiner {
     static final int NONE = -1;
-    private static final boolean[][] CODE = new boolean[2048][39];
+    static final boolean[][] CODE = new boolean[2048][39];
     private static final List<Integer> WHOLE = new ArrayList<>();
     private static final int[] PLACE = new int[48];
 
@@ -300,7 +300,7 @@ final class PlainJoiner {
     private final State[] images = new State[2];
     private final byte[][] trays = new byte[4][];
 
-    private static int wordOf(int sn, int load) {
+    static int wordOf(int sn, int load) {
         for (int w : WHOLE) {
             if (w / 256 == sn && w / 8 % 32 == load) {
                 return w;
@@ -309,7 +309,7 @@ final class PlainJoiner {
         return NONE;
     }
 
-    private static int[] row(int room, int version, int length) {
+    static int[] row(int room, int version, int length) {
         int[] row = new int[length];
         int at = version * room / 4;
         int n = 0;
