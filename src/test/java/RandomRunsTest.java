@@ -1,8 +1,5 @@
-import java.lang.reflect.Method;
 import java.util.ArrayList;
-import java.util.HashMap;
 import java.util.List;
-import java.util.Map;
 import java.util.Random;
 
 /** Seeded runs of calls on FadeJoiner and on PlainJoiner side by side: every answer must be the same. */
@@ -21,27 +18,21 @@ public final class RandomRunsTest {
         "known 5 0 3 0 1", "wrong 5 0 3", "stored 5 0 7", "gaps 6 0 2", "given 5 0 9", "would 6 0 7 0 1",
         "tray 6 0 3 0 60", "write 20 0 3 0 40 -128 127", "lists 4 0 3 0 3", "image 3 0 1", "restore 3 0 1", "count 20 0 19",
     };
+    // A run stops short of the calls that an object is good for, so that its state can be looked at.
+    private static final int LONGEST_RUN = 400;
 
     private final Random random;
     private final FadeJoiner joiner = new FadeJoiner();
     private final PlainJoiner plain = new PlainJoiner();
+    private final List<Script.Call> calls = new ArrayList<>();
     private final List<String> log = new ArrayList<>();
-    private static final Map<String, Method> FAST = new HashMap<>();
-    private static final Map<String, Method> SLOW = new HashMap<>();
 
     private RandomRunsTest(long seed) {
         random = new Random(seed);
     }
 
-    public static void main(String[] args) throws Exception {
-        for (Method m : FadeJoiner.class.getDeclaredMethods()) {
-            FAST.put(m.getName(), m);
-        }
-        for (Method m : PlainJoiner.class.getDeclaredMethods()) {
-            m.setAccessible(true);
-            SLOW.put(m.getName(), m);
-        }
-        int runs = args.length > 0 ? Integer.parseInt(args[0]) : 150;
+    public static void main(String[] args) {
+        int runs = args.length > 0 ? Integer.parseInt(args[0]) : 600;
         long from = args.length > 1 ? Long.parseLong(args[1]) : 0;
         for (long seed = from; seed < from + runs; seed++) {
             RandomRunsTest run = new RandomRunsTest(seed);
@@ -53,7 +44,7 @@ public final class RandomRunsTest {
         System.out.println(runs + " random runs are as the plain model's");
     }
 
-    private boolean goes() throws Exception {
+    private boolean goes() {
         // Some runs stay on what is at first, others begin on a link of their own.
         if (random.nextInt(3) > 0 && !same("link", among(1, 8), among(1, 4), among(1, 15), among(1, 8), among(16, 48))) {
             return false;
@@ -62,9 +53,9 @@ public final class RandomRunsTest {
         for (String row : CALLS) {
             total += Integer.parseInt(row.split(" ")[1]);
         }
-        for (int n = 0; n < 250; n++) {
-            boolean as = random.nextInt(12) == 0 ? craftedBurst() : drawnCall(random.nextInt(total));
-            if (!as || n % 25 == 0 && !sameState()) {
+        for (int n = 1; calls.size() < LONGEST_RUN; n++) {
+            boolean as = random.nextInt(16) == 0 && calls.size() < LONGEST_RUN - 62 ? craftedBurst() : drawnCall(random.nextInt(total));
+            if (!as || n % 50 == 0 && !sameState()) {
                 return false;
             }
         }
@@ -75,7 +66,7 @@ public final class RandomRunsTest {
         return low + random.nextInt(high - low + 1);
     }
 
-    private boolean drawnCall(int at) throws Exception {
+    private boolean drawnCall(int at) {
         int left = at;
         for (String row : CALLS) {
             String[] parts = row.split(" ");
@@ -103,57 +94,41 @@ public final class RandomRunsTest {
     }
 
     /** A BLOCK from elsewhere, more or less clean, near the EXPECTED SN. */
-    private boolean craftedBurst() throws Exception {
+    private boolean craftedBurst() {
         int tray = random.nextInt(4);
-        int length = among(20, 60);
         int version = random.nextInt(4);
-        int sn = (joiner.count(4) + random.nextInt(5)) & 7;
-        long bits = joiner.bits(joiner.word(sn, random.nextInt(32)));
-        boolean as = same("tray", tray, length);
+        int sn = (plain.count(4) + random.nextInt(5)) & 7;
+        boolean[] bits = PlainJoiner.CODE[PlainJoiner.wordOf(sn, random.nextInt(32))];
+        int[] row = PlainJoiner.row(plain.count(17), version, among(15, 60));
+        boolean as = same("tray", tray, row.length);
         int noise = random.nextInt(30);
-        for (int i = 0; i < length; i++) {
-            int clean = (bits >> joiner.sent(version, length, i) & 1) == 1 ? 10 : -10;
-            as &= same("write", tray, i, clean + among(-noise, noise));
+        for (int i = 0; i < row.length; i++) {
+            as &= same("write", tray, i, (bits[row[i]] ? 10 : -10) + among(-noise, noise));
         }
-        return as && same("burst", random.nextInt(joiner.count(15)), version, random.nextInt(2), tray);
+        return as && same("burst", random.nextInt(plain.count(15)), version, random.nextInt(2), tray);
     }
 
-    private boolean same(String name, int... args) throws Exception {
-        Object[] boxed = new Object[args.length];
-        StringBuilder text = new StringBuilder(name + "(");
-        for (int i = 0; i < args.length; i++) {
-            boxed[i] = args[i];
-            text.append(i > 0 ? ", " : "").append(args[i]);
-        }
-        long got = ((Number) FAST.get(name).invoke(joiner, boxed)).longValue();
-        long due = ((Number) SLOW.get(name).invoke(plain, boxed)).longValue();
-        log.add(text + ") = " + got + (got == due ? "" : " BUT DUE IS " + due));
+    private boolean same(String name, int... args) {
+        Script.Call call = new Script.Call(name, args, ' ', 0);
+        calls.add(call);
+        return note(call, Script.ask(joiner, call), Script.askPlain(plain, call));
+    }
+
+    private boolean note(Script.Call call, long got, long due) {
+        log.add(call + " = " + got + (got == due ? "" : " BUT DUE IS " + due));
         return got == due;
     }
 
-    private boolean sameState() throws Exception {
-        int mark = log.size();
-        boolean as = true;
-        for (int what = 0; what < 21; what++) {
-            as &= same("count", what);
-        }
-        for (int p = 0; p < 8; p++) {
-            for (int what = 0; what < 6; what++) {
-                as &= same("process", p, what) & same("heard", p, what);
+    /** Looks at all there is, on new objects that have had the same calls; the plain one has no end of calls. */
+    private boolean sameState() {
+        long[] got = Script.answers(calls, Script.LINK, Script.MOST_CALLS - calls.size());
+        for (int i = 0; i < got.length; i++) {
+            Script.Call look = Script.LINK.looks().get(i);
+            long due = Script.askPlain(plain, look);
+            if (got[i] != due) {
+                return note(look, got[i], due);
             }
-            for (int bit = 0; bit < 39; bit++) {
-                as &= same("soft", p, bit);
-            }
-            as &= same("best", p) & same("kept", p, 0) & same("kept", p, 1) & same("stored", p) & same("again", p);
-            as &= same("would", p, 0) & same("would", p, 1);
         }
-        for (int i = 0; i < 21; i++) {
-            as &= same("waiting", i) & same("given", i) & same("drained", i);
-        }
-        as &= same("gaps", 0) & same("gaps", 1) & same("gaps", 2) & same("drain");
-        if (as) {
-            log.subList(mark, log.size()).clear();
-        }
-        return as;
+        return true;
     }
 }

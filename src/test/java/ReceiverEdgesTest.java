@@ -18,6 +18,7 @@ public final class ReceiverEdgesTest {
         rank();
         listed();
         farthestSums();
+        eachForItself();
         signs();
         stored();
         gaps();
@@ -93,6 +94,8 @@ public final class ReceiverEdgesTest {
             second(1) = 1025
             """);
         edge("38: of all but THE BEST: it is less than THE BEST", "lay(0, 2047, 0, 13, 9); burst(0, 0, 0, 0) = 0; second(0) = 1023; margin(0) = 18");
+        edge("37, 38: of all but THE BEST: THE BEST is 1, just behind the least", "lay(0, 1, 0, 13, 9); burst(0, 0, 0, 0) = 0; margin(0) = 18; second(0) = 0; ties(0, 0) = 1; best(0) = 1");
+        edge("38: of all but THE BEST: it is 2, not just behind THE BEST", "lay(0, 0, 0, 13, 9); write(0, 2, -1); burst(0, 0, 0, 0) = 0; best(0) = 0; second(0) = 2; margin(0) = 2");
         edge("38: of all but THE BEST: THE BEST is 0", "lay(0, 0, 0, 13, 9); burst(0, 0, 0, 0) = 0; best(0) = 0; second(0) = 1; margin(0) = 18");
     }
 
@@ -170,6 +173,20 @@ public final class ReceiverEdgesTest {
             ones += one ? 1 : 0;
         }
         return ones;
+    }
+
+    /** What one PROCESS has been told is not taken for another's. */
+    private static void eachForItself() {
+        String two = "lay(0, 0, 0, 13, 9); lay(1, 2047, 0, 13, 5); burst(0, 0, 0, 0) = 0; burst(1, 0, 0, 1) = 0\n";
+        edge("37: THE RECEIVER: of each PROCESS: margin", two + "margin(0) = 18; margin(1) = 10; margin(0) = 18");
+        edge("38: THE RECEIVER: of each PROCESS: second", two + "second(0) = 1; second(1) = 1023; second(0) = 1");
+        edge("39: THE RECEIVER: of each PROCESS: lean", two + "lean(0, 3) = -18; lean(1, 3) = 10; lean(0, 3) = -18");
+        edge("40: THE RECEIVER: of each PROCESS: ties", two + "tray(2, 1); burst(2, 0, 0, 2) = 0; ties(0, 0) = 1; ties(2, 0) = 2048; ties(1, 0) = 1");
+        edge("41: THE RECEIVER: of each PROCESS: rank", two + "rank(0, 2047) = 2047; rank(1, 2047) = 0; rank(0, 2047) = 2047");
+        edge("42: THE RECEIVER: of each PROCESS: listed", two + "listed(0, 0) = 64; listed(1, 0) = 1919; listed(0, 0) = 64");
+        edge("35: THE RECEIVER: of each PROCESS: best, sum", two + "best(0) = 0; best(1) = 2047; sum(0, 0) = 117; sum(1, 0) = -45; best(0) = 0");
+        edge("43, 45: THE RECEIVER: of each PROCESS: against, wrong, known", two
+            + "against(0, 0) = 0; against(1, 0) = 11; wrong(0) = 0; wrong(1) = 0; known(0, 0) = 13; write(1, 12, 1); burst(1, 0, 1, 1) = 0; wrong(1) = 1; wrong(0) = 0");
     }
 
     private static void signs() {

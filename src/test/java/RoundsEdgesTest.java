@@ -216,14 +216,22 @@ public final class RoundsEdgesTest {
     }
 
     private static void runAnswers() {
-        for (int seed = 0; seed < 24; seed++) {
+        int[] seen = new int[8];
+        for (int seed = 0; seed < 2000; seed++) {
             int[] draws = draws(seed, 41);
+            // Each DRAW modulo 8 four times, half of these by what isn't HEARD.
+            int kind = draws[40] % 8;
+            if (seen[kind] >= 4 || seen[kind] >= 2 && draws[0] % 16 != 0) {
+                continue;
+            }
+            seen[kind]++;
             // Not HEARD: a misread ANSWER is YES, all others leave it the BLOCK.
             edge("if ASKED, a DRAW modulo 8, by FADE 0 for PROCESS k modulo PROCESSES", "link(3, 4, 60, 8, 48); fade(0)\noffer(1); offer(2); offer(3)\n"
                 + "run(" + seed + ", 4, 1, 5) = 0; process(0, 3) = " + (draws[6] % 8 == 0 ? 0 : 2) + "; process(1, 3) = 1; process(2, 3) = 1");
+            edge("(both kinds of DRAWS are made whether HEARD or not): by FADE 0", "link(1, 4, 60, 8, 48); fade(0); offer(1)\n"
+                + "run(" + seed + ", 2, 39, 5) = 0; process(0, 3) = " + (kind == 0 ? 0 : 2));
             boolean heard = draws[0] % 16 != 0;
-            int answer = draws[40] % 8;
-            boolean keeps = heard ? answer < 2 : answer != 0;
+            boolean keeps = heard ? kind < 2 : kind != 0;
             edge("0: the ANSWER is misread, 1: nothing is read, others: it is read", "link(1, 4, 60, 8, 48); offer(1)\n"
                 + "run(" + seed + ", 2, 39, 0); process(0, 3) = " + (keeps ? 2 : 0) + "; process(0, 4) = " + (keeps ? 1 : 0));
         }
@@ -262,6 +270,14 @@ public final class RoundsEdgesTest {
         edge("(FADE 20 for these)", "fade(0); offer(1); drain() = 1; count(19) = 0; fade(60); drain() = 1; count(19) = 60; fade(1); drained(0) = 1; count(19) = 1");
         edge("24: NONE: not by the 30th", spoilt() + "drain() = NONE; drained(0) = 31; drained(19) = 18; drained(20) = NONE");
         edge("24: by the 30th", spoilt() + "report() = 1; drain() = 30; drained(20) = 19; drained(21) = NONE");
+        // LOAD 31 is the WORD 251; SOFT of all CODE BITS is that of the WORD 0, so a 1 must be turned.
+        String off = "offer(31); lay(0, 0, 0, 39, BY); burst(0, 0, 1, 0) = 0\n";
+        edge("(FADE 20 for these): more than 19", off.replace("BY", "19") + "drain() = 1; drained(0) = 31; drained(1) = NONE");
+        edge("(FADE 20 for these): not more than 20", off.replace("BY", "20") + "drain() = 2; drained(0) = 31; drained(1) = NONE");
+        // The WORD 250 is unlike in CODE BITS 10, 23, 24, 25, 36, 38: by all six 120 are ahead of 110, by five 100 are not.
+        edge("(LENGTH 39): the 39th value is sent", "offer(31); tray(0, 9); write(0, 8, -110); burst(0, 0, 1, 0) = 0; soft(0, 10) = -110; drain() = 1");
+        // The WORD 763 is unlike in CODE BITS 1, 14, 15, 16, 27, 29: once each 120 are behind 130, with the first again 140 are not.
+        edge("(LENGTH 39): no 40th value is sent", "offer(31); fill(0, 1, 65); burst(0, 0, 1, 0) = 0; burst(0, 0, 1, 0) = 0; soft(0, 1) = 130; drain() = 2");
         edge("(LENGTH 39): a ROOM of 16", "link(1, 1, 12, 4, 16); offer(9); drain() = 1; drained(0) = 9");
         Script.alike("24: judged as if they were: nothing changes", spoilt() + "drain(); drained(0); worst(3, 0); worst(3, 1)", spoilt());
     }
@@ -299,6 +315,7 @@ public final class RoundsEdgesTest {
         edge("26: by some choice just by the 30th", bad.replace("TRIES", "7") + "worst(1, 0) = 30; worst(1, 1) = 1; worst(3, 0) = 30; worst(3, 1) = 1");
         edge("26: NONE: by some choice not by the 30th; it counts as more than any", bad.replace("TRIES", "8")
             + "worst(1, 0) = NONE; worst(1, 1) = 1; worst(3, 0) = NONE; worst(3, 1) = 1");
+        edge("25: GIVEN in CLEAN ROUNDS: none is misread", bad.replace("TRIES", "8") + "drained(0) = 31; drained(20) = 19; drained(21) = NONE");
         edge("26: NONE: by no choice by the 30th, the least number", spoilt() + "worst(0, 0) = NONE; worst(0, 1) = 0; worst(3, 0) = NONE; worst(3, 1) = 0");
     }
 }

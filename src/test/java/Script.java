@@ -27,6 +27,7 @@ final class Script {
     private static final Pattern ROW = Pattern.compile("(\\w+)\\(([^)]*)\\)\\s*(?:([=!])\\s*(-?\\w+))?");
     private static final Map<String, Method> JOINER = methods(FadeJoiner.class);
     private static final Map<String, Method> PLAIN = methods(PlainJoiner.class);
+    static final View LINK = new View(List.of(), read(looksAtLink()));
     private static final List<View> PORTRAIT = portrait();
     private static int edges = 0;
     private static int wrong = 0;
@@ -172,6 +173,10 @@ final class Script {
         return ask(JOINER, joiner, call);
     }
 
+    static long askPlain(PlainJoiner plain, Call call) {
+        return ask(PLAIN, plain, call);
+    }
+
     private static long ask(Map<String, Method> methods, Object object, Call call) {
         Method method = methods.get(call.name);
         if (method == null) {
@@ -198,11 +203,11 @@ final class Script {
     }
 
     /** Looks at an object, behind calls that open it up. */
-    private record View(List<Call> opening, List<Call> looks) {
+    record View(List<Call> opening, List<Call> looks) {
     }
 
     /** What the looks of a view answer behind some calls; a new object whenever one has had so many calls more. */
-    private static long[] answers(List<Call> calls, View view, int most) {
+    static long[] answers(List<Call> calls, View view, int most) {
         long[] told = new long[view.looks.size()];
         FadeJoiner joiner = null;
         int left = 0;
@@ -226,9 +231,9 @@ final class Script {
     /** All that can be seen of an object: THE LINK, both IMAGES, each TRAY, and how it goes on. */
     private static List<View> portrait() {
         List<View> views = new ArrayList<>();
-        views.add(new View(List.of(), read(looksAtLink())));
-        views.add(new View(read("restore(0)"), read("count(15)\n" + looksAtLink())));
-        views.add(new View(read("restore(1)"), read("count(15)\n" + looksAtLink())));
+        views.add(LINK);
+        views.add(new View(read("restore(0)"), LINK.looks));
+        views.add(new View(read("restore(1)"), LINK.looks));
         for (int tray = 0; tray < 4; tray++) {
             // Writing tells where a TRAY ends, hearing it what is in it.
             views.add(new View(List.of(), read(each("write(" + tray + ", %d, 0)", 61))));
@@ -236,7 +241,7 @@ final class Script {
             views.add(new View(read("link(1, 1, 1, 1, 16); burst(0, 1, 0, " + tray + ")"), read(each("soft(0, %d)", 13))));
         }
         views.add(new View(List.of(), read(each("answer(%d, 0)", 8) + each("count(%d)", 20))));
-        views.add(new View(read("fade(20); offer(1); offer(2); run(1, 60, 20, 9); run(2, 60, 39, 30)"), read(looksAtLink())));
+        views.add(new View(read("fade(20); offer(1); offer(2); run(1, 60, 20, 9); run(2, 60, 39, 30)"), LINK.looks));
         return views;
     }
 

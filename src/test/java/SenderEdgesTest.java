@@ -52,6 +52,10 @@ public final class SenderEdgesTest {
             fade(0); offer(0); offer(31); send(0, 39, NONE); fade(20); send(1, 39, NONE) = 1; kept(7, 0) = 0; kept(0, 0) = 31; kept(1, 0) = NONE
             kept(6, 0) = NONE; report() = 0; kept(7, 1) = 0; kept(0, 1) = 1; count(2) = 7; count(1) = 1
             """);
+        edge("each CONFIRMED or not: a new BLOCK isn't, though one of its SN was", """
+            fade(0); offer(1); offer(2); send(0, 39, NONE); fade(20); send(1, 39, NONE) = 1; report() = 0; kept(1, 1) = 1; answer(0, 0); send(0, 39, NONE) = 1
+            report() = 0; count(2) = 2
+            """ + GO.repeat(7) + "count(1) = 1; fade(0); offer(9); send(2, 39, NONE); process(2, 0) = 1; kept(1, 0) = 9; kept(1, 1) = 0");
         edge("28: -2: the SN, what", """
             kept(0, 0) = NONE; kept(7, 1) = NONE; kept(-1, 0) ! -2; kept(8, 0) ! -2; kept(MIN, 0) ! -2; kept(MAX, 0) ! -2; kept(0, -1) ! -2
             kept(0, 2) ! -2; kept(0, MIN) ! -2; kept(0, MAX) ! -2; kept(8, 2) ! -2; offer(1); send(0, 1, NONE); kept(0, 2) ! -2; kept(8, 0) ! -2
@@ -90,16 +94,25 @@ public final class SenderEdgesTest {
             distance(1, 20, 1) = 3; distance(3, 20, 1) = 6; distance(9, 20, 1) = 8
             """);
         edge("31: all SENDINGS of its BLOCK so far: those of an earlier BLOCK don't count", """
-            link(1, 4, 12, 8, 48); offer(1); offer(2); fade(0); send(0, 39, NONE); answer(0, 2); send(0, 60, NONE); answer(0, 1) = 1; send(0, 20, NONE)
-            process(0, 0) = 1; next(0, 20) = 2; link(1, 4, 12, 8, 48); offer(1); send(0, 20, NONE); next(0, 20) = 2
+            link(1, 4, 12, 8, 48); offer(1); offer(2); fade(0); send(0, 20, NONE); answer(0, 1) = 1; send(0, 26, NONE); process(0, 0) = 1
+            next(0, 5) = 3; next(0, 13) = 0; next(0, 20) = 3; link(1, 4, 12, 8, 48); fade(0); offer(1); send(0, 26, NONE); next(0, 5) = 3
+            next(0, 13) = 0; next(0, 20) = 3
             """);
     }
 
     /** By a table of its own: the least DISTANCE of WHOLE WORDS by each VERSION behind all that was sent. */
     private static void nextVersions() {
-        int[] lengths = {1, 13, 20, 39, 60, 7, 33, 60};
+        for (int room : new int[] {16, 17, 19, 33, 47, 48}) {
+            nextVersions(room, 1, 13, 20, 39, 60, 7, 33, 60);
+            // The most that can be sent of a BLOCK: 8 times 60, up to 40 of one CODE BIT.
+            nextVersions(room, 60, 60, 60, 60, 60, 60, 60, 60);
+            nextVersions(room, 60, 60, 60, 60, 60, 60, 60, 49);
+        }
+    }
+
+    private static void nextVersions(int room, int... lengths) {
         int[] order = {0, 2, 3, 1};
-        for (int room : new int[] {16, 19, 33, 47, 48}) {
+        for (int first = 1; first <= 60; first += 30) {
             StringBuilder rows = new StringBuilder("link(1, 1, 12, 8, " + room + "); fade(0); offer(9)\n");
             int[] times = new int[39];
             for (int n = 0; n < 8; n++) {
@@ -107,7 +120,7 @@ public final class SenderEdgesTest {
                     times[c]++;
                 }
                 rows.append("send(0, " + lengths[n] + ", NONE) = NONE\n");
-                for (int length : new int[] {1, 2, 13, 26, 39, 59, 60}) {
+                for (int length : new int[] {first, first + 1, first + 6, first + 12, first + 19, first + 25, first + 29}) {
                     rows.append("next(0, " + length + ") = " + farthest(room, length, times) + "\n");
                 }
                 rows.append("answer(0, 0) = NONE\n");

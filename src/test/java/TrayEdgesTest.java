@@ -106,6 +106,8 @@ public final class TrayEdgesTest {
             Script.alike("54: All that is in an IMAGE is as it was: as at first", tray + image + MESS + restore, tray + image);
             Script.alike("54: All that is in an IMAGE is as it was: behind much", tray + MESS + image + "link(8, 2, 9, 5, 20); offer(4); run(2, 60, 30, 40)\n" + restore,
                 tray + MESS + image);
+            Script.alike("54: All that is in an IMAGE is as it was: something of all there is", LinkEdgesTest.RICH + image + "link(8, 2, 9, 5, 20)\n"
+                + GO.repeat(8) + "fade(0); offer(1); send(0, 39, NONE); answer(0, 1); report()\n" + restore, LinkEdgesTest.RICH + image);
             Script.alike("54: The IMAGE stays as it was made", tray + MESS + image + restore + "answer(3, 2); offer(8); run(1, 60, 39, 20); limit(3)\n" + restore,
                 tray + MESS + image);
         }
@@ -137,6 +139,7 @@ public final class TrayEdgesTest {
             count(10) = 1; count(11) = 1; count(12) = 1; count(13) = 0; count(14) = 1; count(15) = 5; count(16) = 3; count(17) = 40; count(18) = 333
             count(19) = 44; tick(7); count(4) = 3; count(8) = 2; count(9) = 1; count(6) = NONE; count(7) = NONE; report() = 0; count(13) = 1; count(1) = 3
             """);
+        edge("55: each count, something of all there is", LinkEdgesTest.RICH);
         edge("55: 6 the TIMER (NONE: it doesn't run), 7 MARK, an SN (so)", "count(6) = NONE; count(7) = NONE; come(0, 0, 1, 1); count(6) = 12; count(7) = 2; tick(12); count(6) = NONE; count(7) = NONE");
     }
 }
