@@ -164,7 +164,8 @@ public final class ReceiverEdgesTest {
         edge("kept from -LIMIT to LIMIT: all 39 CODE BITS at -9999", "limit(9999); fill(0, 60, -128)\n" + "burst(0, 0, 0, 0) = 0\n".repeat(79)
             + "soft(0, 0) = -9999; soft(0, 38) = -9999; sum(0, 0) = 389961; best(0) = 0; margin(0) = 119988; second(0) = 1; lean(0, 0) = -119988\n"
             + "sum(0, 2047) = " + (389961 - 2 * 9999 * ones(2047)) + "; listed(0, 0) = " + lightest + "; listed(0, 255) = " + heaviest
-            + "; sum(0, " + heaviest + ") = " + (389961 - 2 * 9999 * ones(heaviest)) + "; known(0, 0) = 39; known(0, 1) = 10; wrong(0) = 0; against(0, 2047) = 26");
+            + "; sum(0, " + heaviest + ") = " + (389961 - 2 * 9999 * ones(heaviest)) + "; known(0, 0) = 39; known(0, 1) = 10; wrong(0) = 0; against(0, 2047) = 26\n"
+            + "margin(0) = 119988\n".repeat(40) + "listed(0, 0) = " + lightest + "; listed(0, 255) = " + heaviest);
     }
 
     private static int ones(int word) {
