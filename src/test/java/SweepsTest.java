@@ -1,6 +1,7 @@
 /**
- * Promises 2 to 12 by all arguments that can be, in every ROOM. What is due is counted here in a way of its own: a WORD
- * is multiplied without carry, DISTANCES grow value by value, and neither the class nor PlainJoiner is asked.
+ * Promises 2 to 12 by all arguments that can be, in every ROOM; only between() is asked by one pair of WORDS for each
+ * ROOM, VERSIONS and LENGTH. What is due is counted here in a way of its own: a WORD is multiplied without carry,
+ * DISTANCES grow value by value, and neither the class nor PlainJoiner is asked.
  */
 public final class SweepsTest {
     private static final int NONE = FadeJoiner.NONE;
@@ -166,6 +167,9 @@ public final class SweepsTest {
                 due(asked + "2)", joiner(room).distance(set, length, 2), all[1]);
                 due(asked + "3)", joiner(room).distance(set, length, 3), whole[1]);
                 apart[set][length] = whole[0];
+                int other = (1237 * length + 31 * set + room) % 2048;
+                due("room " + room + ", between(" + any + ", " + other + ", " + set + ", " + length + ")",
+                    joiner(room).between(any, other, set, length), fromAny[other]);
             }
         }
         lengths(room, apart);
